@@ -154,7 +154,7 @@ public final class QuestionsTest {
     }
 
     private static void exactly() {
-        // The repairs have groups {0, 2}, {2} and twice {2, 7}, {0, 7}.
+        // The four repairs have the groups {0, 2}, {0, 7}, {2} and {2, 7}.
         RepairRange table = table(0, 0, 1, 0, 2, 1, 1, 2, 1, 1, 7, 1);
         for (int mask = 0; mask < 256; mask++) {
             boolean due = mask == 5 || mask == 4 || mask == 129 || mask == 132;
