@@ -1,29 +1,27 @@
 /** Counts and prints the answers that are not the ones due. */
 final class Checks {
+    private String sentence = "";
     private int made = 0;
     private int wrong = 0;
 
+    /** Names the document's sentence that the checks from here on are about. */
+    void about(String place, String words) {
+        sentence = place + " (" + words + "): ";
+    }
+
     void due(String what, int got, int want) {
-        made++;
-        if (got != want) {
-            wrong++;
-            System.out.println(what + " answered " + got + ", due is " + want);
-        }
+        due(what, String.valueOf(got), String.valueOf(want));
     }
 
     void due(String what, boolean got, boolean want) {
-        made++;
-        if (got != want) {
-            wrong++;
-            System.out.println(what + " answered " + got + ", due is " + want);
-        }
+        due(what, String.valueOf(got), String.valueOf(want));
     }
 
     void due(String what, String got, String want) {
         made++;
         if (!got.equals(want)) {
             wrong++;
-            System.out.println(what + " is " + got + ", due is " + want);
+            System.out.println(sentence + what + " answered " + got + ", due is " + want);
         }
     }
 

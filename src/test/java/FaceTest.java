@@ -3,11 +3,18 @@ import java.lang.reflect.Field;
 import java.lang.reflect.Method;
 import java.lang.reflect.Modifier;
 import java.util.Arrays;
+import java.util.HashSet;
+import java.util.Set;
 import java.util.TreeSet;
 
-/** The public face: the document's members with their types and values, and no other visible member. */
+/**
+ * The public face: the document's members with their types and values, and no other visible member. Beside
+ * them the rules of LANGUAGE.md that can be seen on the members.
+ */
 public final class FaceTest {
     private static final Checks checks = new Checks();
+    private static final Set<Class<?>> NUMBERS =
+        Set.of(int.class, long.class, short.class, byte.class, char.class, boolean.class);
 
     public static void main(String[] args) throws ReflectiveOperationException {
         checks.due("the class's modifiers", Modifier.toString(RepairRange.class.getModifiers()), "public final");
@@ -15,6 +22,8 @@ public final class FaceTest {
         constants();
         constructors();
         methods();
+        fieldsKeepToTheLanguage();
+        methodsKeepToTheLanguage();
         checks.end();
     }
 
@@ -63,5 +72,37 @@ public final class FaceTest {
             "public int mixedMost()",
             "public boolean exactly(int)"));
         checks.due("the methods", seen.toString(), want.toString());
+    }
+
+    private static void fieldsKeepToTheLanguage() {
+        int held = 0;
+        for (Field field : RepairRange.class.getDeclaredFields()) {
+            Class<?> type = field.getType();
+            if (Modifier.isStatic(field.getModifiers())) {
+                boolean number = type == int.class || type == long.class;
+                boolean constant = Modifier.isFinal(field.getModifiers());
+                checks.due(field + ", an int or long constant (rule 5)", number && constant, true);
+            } else {
+                held++;
+                Class<?> item = type.isArray() ? type.getComponentType() : type;
+                checks.due(field + ", a number or an array of them (rule 2)", NUMBERS.contains(item), true);
+            }
+        }
+        checks.due("at most forty fields (rule 10)", held <= 40, true);
+    }
+
+    private static void methodsKeepToTheLanguage() {
+        Set<String> open = new HashSet<>();
+        Set<String> hidden = new HashSet<>();
+        for (Method method : RepairRange.class.getDeclaredMethods()) {
+            boolean isPrivate = Modifier.isPrivate(method.getModifiers());
+            (isPrivate ? hidden : open).add(method.getName());
+            boolean array = method.getReturnType().isArray();
+            checks.due(method + ", an array (rule 4)", array, false);
+            boolean many = method.getParameterCount() > 7;
+            checks.due(method + ", over seven parameters (rule 10)", many, false);
+        }
+        hidden.retainAll(open);
+        checks.due("private methods with a public one's name (rule 1)", hidden.toString(), "[]");
     }
 }
